@@ -624,7 +624,7 @@ public final class FloorTopsPromises {
         "merge 0", "merge 0 ", "merge 0 a", "merge 0 1 ", "merge 0 12 3", "merge 0 123", "merge 00 1",
         "merge 01 1", "merge 123 1", "merge0 1", "merge-0", "clear", "clear 0 1", "clear 00", "clear a",
         "clear 0x", "copy 0,1", "copy 0 -1", "size 0 02", "size 0 0", "size\u00e9", "size\u0000", "\u0000",
-        "sizes", "siz", "clears 0", "cop 0 1", "mergesize 0 1", "copyx", "merge 0 1\u0000", "0 1 merge"};
+        "sizes", "siz", "clears 0", "xopy 0 1", "mergesize 0 1", "copyx", "merge 0 1\u0000", "0 1 merge"};
     int[] faults = {0, 0, 0, 0, 0, 5, 6, 6,
         7, 8, 8, 9, 10, 10, 7,
         7, 8, 5, 5, 5, 7, 7, 6,
@@ -690,6 +690,42 @@ public final class FloorTopsPromises {
     due(x.count(5), 0);
     due(x.count(1), 0);
     due(x.block(0, 3), 0);
+    blocksAndEventsComeBack();
+  }
+
+  private static void blocksAndEventsComeBack() {
+    FloorTops x = new FloorTops();
+    flowAll(x, "a,b,c,d,a,b,c,d");
+    x.setSize(2, 2);
+    feed(x, 2, "p,q,r");
+    flowAll(x, "e2,f");
+    due(x.event(0, 1), 4);
+    due(x.undo(), 3);
+    due(x.event(0, 1), 2);
+    due(x.event(0, 2), 'p');
+    due(x.event(0, 3), 11);
+    due(x.flow('z', 5), 1);
+    due(x.block(0, 1), 8);
+    due(x.block(1, 1), 5);
+    due(x.flow('z', 5), 2);
+    due(x.undo(), 3);
+    due(x.undo(), 2);
+    due(x.block(0, 0), 8);
+    due(x.block(1, 0), UNKNOWN);
+    // Kept, the events are those of the time of keep().
+    x.keep();
+    for (int i = 0; i < 9; i++) {
+      x.merge(3, 1);
+    }
+    flowAll(x, "k,k,k,k,k,k,k,k,k");
+    x.restore();
+    due(x.event(0, 1), 2);
+    due(x.event(1, 0), NONE);
+    due(x.flow('y', 3), 1);
+    due(x.block(0, 1), 8);
+    due(x.block(1, 1), 3);
+    due(x.bound(4, 'a', 2), 2);
+    due(x.bound(4, 'k', 2), 0);
   }
 
   private static void snapshot() {
@@ -752,6 +788,8 @@ public final class FloorTopsPromises {
     due(x.summary(1, 6), bits("bdz"));
     due(x.arrive(1, 'z', 99), 105);
     due(x.summary(1, 4), 5);
+    due(x.arrive(1, 'a', 1), 10);
+    due(x.summary(1, 4), 9);
     for (int s : WRONG_TOLD) {
       due(x.summary(s, 0), UNKNOWN);
       due(x.summary(s, 7), UNKNOWN);
@@ -855,6 +893,13 @@ public final class FloorTopsPromises {
     due(x.top(0, 5, 2), BAD);
     due(x.top(1, 0, 0), NONE);
     due(x.top(1, 0, 2), BAD);
+    feed(x, 1, "b2,a2,z3");
+    due(x.top(1, 0, 0), 'z');
+    due(x.top(1, 1, 0), 'a');
+    due(x.top(1, 2, 0), 'b');
+    x.arrive(1, 'a', 1);
+    due(x.top(1, 0, 0), 'a');
+    due(x.top(1, 1, 0), 'z');
     for (int s : WRONG_TOLD) {
       due(x.top(s, 0, 0), UNKNOWN);
       due(x.top(s, -1, 0), UNKNOWN);
