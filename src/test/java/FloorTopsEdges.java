@@ -885,6 +885,22 @@ public final class FloorTopsEdges {
     due(2, x -> x.event(0, 0));
   }
 
+  static void promise04_presentBlock() {
+    says("What flows arrives at the present block.");
+    flow("a,b,c,d,a,b,c,d,e2,f,g,h,e,f,g,h,i");
+    due(2, x -> x.flow('a', 7));
+    due(3, x -> x.count(3));
+    // The blocks that are full stay as they were.
+    int[][] wanted = {{8, 8, 4, 0}, {8, 9, 4, 0}, {2, 8, 2, 0}};
+    for (int i = 0; i <= 2; i++) {
+      int block = i;
+      for (int what = 0; what <= 3; what++) {
+        int w = what;
+        due(wanted[block][w], x -> x.block(block, w));
+      }
+    }
+  }
+
   static void promise04_eightAreArrivals() {
     says("When 8 arrivals have come to a block, it is full");
     // Arrivals, not weights, letters or counters.
@@ -2335,6 +2351,28 @@ public final class FloorTopsEdges {
         still(BAD, x -> x.bound(0, letter, what));
       }
     }
+  }
+
+  static void promise17_noneOnlyIfNoErrorApplies() {
+    says("NONE is no error; it is returned only if no error applies.");
+    // Each of these has nothing to tell or to do, too.
+    still(UNKNOWN, x -> x.bound(5, 'a', 3));
+    still(UNKNOWN, x -> x.bound(0, 'A', 4));
+    still(UNKNOWN, x -> x.top(5, 9, 0));
+    still(BAD, x -> x.top(0, 9, 2));
+    still(UNKNOWN, x -> x.wouldEvict(4, 'a'));
+    still(UNKNOWN, x -> x.wouldEvict(0, '{'));
+    still(BAD, x -> x.event(9, 4));
+    still(UNKNOWN, x -> x.setSize(4, 4));
+    still(UNKNOWN, x -> x.clear(4));
+    text("clear 0,");
+    still(-107, x -> x.perform());
+    text("size 0 4 ");
+    still(-108, x -> x.perform());
+    text("size 5 4");
+    still(UNKNOWN, x -> x.perform());
+    text("size 0 4");
+    still(NONE, x -> x.perform());
   }
 
   // ---- promise 18: top

@@ -8,11 +8,16 @@ import java.nio.file.Path;
 import java.util.Arrays;
 import java.util.Set;
 import java.util.TreeSet;
+import java.util.regex.Matcher;
 import java.util.regex.Pattern;
 
-/** The face of the class, and those rules of LANGUAGE.md that can be seen from outside or from its words. */
+/**
+ * The face of the class, as the document prints it, and those rules of LANGUAGE.md that can be seen from
+ * outside or in the source's words.
+ */
 public final class FloorTopsFace {
   private static final String SOURCE = "src/main/java/FloorTops.java";
+  private static final String DOCUMENT = "../shared/DOC.md";
   private static final String[] FACE = {
     "int arrive(int, char, int)", "int feed(int)", "int flow(char, int)", "int flowAll()",
     "int merge(int, int)", "int copy(int, int)", "int setSize(int, int)", "int clear(int)",
@@ -109,6 +114,49 @@ public final class FloorTopsFace {
     for (String never : NEVER) {
       due(!Pattern.compile(never).matcher(words).find(), "the source never says " + never);
     }
+    // Rule 11: from a line that opens a method to the one that closes it, some sixty lines at most.
+    Matcher method = Pattern.compile("(?ms)^(    |        )(?![ }])[^\n]+\\) \\{$.*?^\\1}$").matcher(source);
+    int methods = 0;
+    while (method.find()) {
+      methods++;
+      due(method.group().lines().count() <= 60, "this method is short: " + method.group().lines().findFirst());
+    }
+    due(methods > FACE.length, "the methods in the source are seen: " + methods);
+  }
+
+  /** The members as the document prints them, and what the interface says ahead of which calls. */
+  private static void asPrinted() throws IOException {
+    String document = Files.readString(Path.of(DOCUMENT));
+    String source = Files.readString(Path.of(SOURCE));
+    int members = 0;
+    Matcher member = Pattern.compile("(?m)^    (public .+);$").matcher(document);
+    while (member.find()) {
+      members++;
+      String end = member.group(1).endsWith(")") ? " {\n" : ";\n";
+      due(source.contains("\n    " + member.group(1) + end), "the source says " + member.group(1));
+    }
+    due(members == CONSTANTS.length + 1 + FACE.length, "the document prints " + members + " members");
+    StringBuilder sections = new StringBuilder();
+    Matcher ahead = Pattern.compile("Ahead of the calls `(.+)` the interface says: (---- .+)\\.").matcher(document);
+    while (ahead.find()) {
+      sections.append(ahead.group(2)).append(": ").append(ahead.group(1).replace("`, `", " ")).append('\n');
+    }
+    due(sections.length() > 0 && sectionsOf(source).startsWith(sections.toString()),
+        "the interface says:\n" + sections + "and not:\n" + sectionsOf(source));
+  }
+
+  /** A line for each comment that begins a section, with the public methods that follow it. */
+  private static String sectionsOf(String source) {
+    StringBuilder sections = new StringBuilder();
+    Matcher part = Pattern.compile("(?m)^    // (---- .+)$|^    public int (\\w+)\\(").matcher(source);
+    while (part.find()) {
+      if (part.group(1) != null) {
+        sections.append(sections.length() == 0 ? "" : "\n").append(part.group(1)).append(':');
+      } else {
+        sections.append(' ').append(part.group(2));
+      }
+    }
+    return sections.append('\n').toString();
   }
 
   /** Nothing that a call may be given makes it throw, in an empty object or in a full one. */
@@ -156,6 +204,7 @@ public final class FloorTopsFace {
 
   public static void main(String[] args) throws IllegalAccessException, IOException {
     face();
+    asPrinted();
     source();
     neverThrows();
     System.out.println(wrong == 0 ? "the face is as due" : wrong + " things do not hold");
