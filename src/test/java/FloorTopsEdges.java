@@ -41,6 +41,9 @@ public final class FloorTopsEdges {
   private static int calls = 0;
   private static String test = "";
   private static String document = "";
+  /** Its lines between "## Terms" and "## Not promised". */
+  private static List<String> lines = List.of();
+  private static final List<String> quotes = new ArrayList<>();
   private static boolean quoted = false;
   private static int wrong = 0;
   /** What the run tells without the call that is looked at; null if the run has grown since. */
@@ -90,10 +93,11 @@ public final class FloorTopsEdges {
   }
 
   /** Begins a test: a new object, and the words of the document that it is about. */
-  private static void says(String... quotes) {
+  private static void says(String... words) {
     fresh();
     quoted = true;
-    for (String quote : quotes) {
+    for (String quote : words) {
+      quotes.add(plain(quote));
       if (!document.isEmpty() && !document.contains(plain(quote))) {
         fail("the document doesn't say: " + quote);
       }
@@ -268,7 +272,9 @@ public final class FloorTopsEdges {
   // ---- promise 1: a new object
 
   static void promise01_constants() {
-    says("`UNKNOWN = -1`", "`BAD_VALUE = -2`", "`FULL = -3`", "`NOT_POSSIBLE = -4`", "`NONE = -5`");
+    says("Errors are reported by the constants below.", "`UNKNOWN = -1`: There is no such summary, letter or counter.",
+        "`BAD_VALUE = -2`: Another argument is out of range.", "`FULL = -3`: There is no more room.",
+        "`NOT_POSSIBLE = -4`: This is not possible.", "`NONE = -5`: There is no such thing; not an error.");
     due(-1, x -> FloorTops.UNKNOWN);
     due(-2, x -> FloorTops.BAD_VALUE);
     due(-3, x -> FloorTops.FULL);
@@ -1852,7 +1858,8 @@ public final class FloorTopsEdges {
   }
 
   static void promise13_fourStates() {
-    says("A history of at most 4 states is kept; when one more is recorded, the oldest one is dropped; undo() removes and restores the latest one.");
+    says("A history of at most 4 states is kept; when one more is recorded, the oldest one is dropped; undo() removes and restores the latest one.",
+        "Removes and restores the latest state of the history.");
     for (int i = 1; i <= 4; i++) {
       int many = i;
       with(x -> x.arrive(0, 'a', 1));
@@ -1897,7 +1904,13 @@ public final class FloorTopsEdges {
   }
 
   static void promise13_eachActRecordsOne() {
-    says("Each call of a method that is described as an act, and returns no error and not NONE, records the state that was before it.");
+    says("Each call of a method that is described as an act, and returns no error and not NONE, records the state that was before it.",
+        "Lets a letter arrive at a summary. This is an act.", "Lets the arrivals of the text, which stays, come to a summary, one after the other. This is one act.",
+        "Lets a letter flow into the window. This is an act.", "Lets the arrivals of the text, which stays, flow into the window, one after the other. This is one act.",
+        "Merges a summary with another one, which is empty then. This is an act.",
+        "Makes a summary what another one is, its size included. This is an act.", "Sets the size of a summary. This is an act.",
+        "Empties a summary; its size stays. This is an act.", "Does what the command in the text tells; the text stays. This is an act.",
+        "Restores the state of the snapshot, which stays. This is an act.");
     Call[] acts = {x -> x.arrive(0, 'a', 5), x -> x.feed(1), x -> x.flow('b', 2), x -> x.flowAll(), x -> x.merge(2, 1), x -> x.merge(0, 3),
         x -> x.copy(1, 0), x -> x.copy(3, 2), x -> x.setSize(1, 2), x -> x.setSize(1, 10), x -> x.clear(1), x -> x.restore()};
     for (Call act : acts) {
@@ -2378,7 +2391,7 @@ public final class FloorTopsEdges {
   // ---- promise 18: top
 
   static void promise18_places() {
-    says("- `place`: a place in this order, from 0", "BAD_VALUE (place is negative, or what); NONE if there are not so many.");
+    says("- `place`: a place in this order, from 0", "- `what`: 0 for the code of its letter, 1 for its count", "BAD_VALUE (place is negative, or what); NONE if there are not so many.");
     with(x -> x.setSize(0, 10));
     still(NONE, x -> x.top(0, 0, 0));
     feed(0, "a,b2,c3,d4,e5,f6,g7,h8,i9,j10");
@@ -2456,7 +2469,8 @@ public final class FloorTopsEdges {
   }
 
   static void promise19_certainly() {
-    says("a letter is so certainly if fewer than many other letters have an upper bound that is greater than its lower bound");
+    says("a letter is so certainly if fewer than many other letters have an upper bound that is greater than its lower bound",
+        "- `sure`: whether those are told that are so certainly, otherwise those that are so possibly");
     with(x -> x.setSize(0, 3));
     feed(0, "a9,b4,c3,d1");
     // a [9,9], b [4,4], d [1,4], the others [0,3]: b's 4 isn't greater than 4, but d's 1 is beaten by 24.
@@ -2486,7 +2500,8 @@ public final class FloorTopsEdges {
   }
 
   static void promise19_possibly() {
-    says("it is so possibly if fewer than many other letters have a lower bound that is greater than its upper bound");
+    says("it is so possibly if fewer than many other letters have a lower bound that is greater than its upper bound",
+        "- `sure`: whether those are told that are so certainly, otherwise those that are so possibly");
     with(x -> x.setSize(0, 3));
     feed(0, "a9,b4,c3,d1");
     // a [9,9], b [4,4], d [1,4], the others [0,3]
@@ -2530,7 +2545,8 @@ public final class FloorTopsEdges {
   }
 
   static void promise20_greaterNotEqual() {
-    says("certainly if lower bound * 100 is greater than percent * sum, possibly if upper bound * 100 is");
+    says("certainly if lower bound * 100 is greater than percent * sum, possibly if upper bound * 100 is",
+        "- `sure`: whether those are told that are so certainly, otherwise those that are so possibly");
     with(x -> x.setSize(0, 3));
     feed(0, "a50,b25,c10,d15");
     // sum 100: a [50,50], b [25,25], d [15,25], the others [0,10]
@@ -2579,7 +2595,7 @@ public final class FloorTopsEdges {
   // ---- promise 21: rank
 
   static void promise21_ends() {
-    says("whether the greatest rank that it can have is told (1 more than the other letters whose upper bound is greater than its lower bound), "
+    says("Tells the rank of a letter from one side.", "- `greatest`: whether the greatest rank that it can have is told (1 more than the other letters whose upper bound is greater than its lower bound), "
         + "otherwise the least one (1 more than the other letters whose lower bound is greater than its upper bound)");
     due(1, x -> x.rank(0, 'a', true));
     due(1, x -> x.rank(0, 'z', false));
@@ -2630,7 +2646,7 @@ public final class FloorTopsEdges {
   // ---- promise 22: alike
 
   static void promise22_ends() {
-    says("Returns how many of the 26 letters can have come as often at both (the ranges from lower to upper bound meet); UNKNOWN.");
+    says("Compares two summaries.", "Returns how many of the 26 letters can have come as often at both (the ranges from lower to upper bound meet); UNKNOWN.");
     due(26, x -> x.alike(0, 1));
     due(26, x -> x.alike(0, 0));
     due(26, x -> x.alike(4, 4));
@@ -2769,7 +2785,7 @@ public final class FloorTopsEdges {
   // ---- promise 25: event
 
   static void promise25_back() {
-    says("- `back`: 0 for the latest event, 1 for the one before, and so on", "Returns the number; BAD_VALUE (back is negative, or what); NONE if there is none.");
+    says("Looks back at the log.", "- `back`: 0 for the latest event, 1 for the one before, and so on", "Returns the number; BAD_VALUE (back is negative, or what); NONE if there is none.");
     still(NONE, x -> x.event(0, 0));
     with(x -> x.merge(1, 2));
     due(1, x -> x.event(0, 1));
@@ -2806,8 +2822,9 @@ public final class FloorTopsEdges {
   }
 
   static void promise25_evictions() {
-    says("0 a counter is evicted (by an arrival, at the time of the arrival; also as a size becomes smaller)",
-        "1 for its summary (4 for a block of the window; of 1 the first one), 2 for the code of the letter (0)");
+    says("The kinds of events are: 0 a counter is evicted (by an arrival, at the time of the arrival; also as a size becomes smaller)",
+        "- `what`: 0 for its kind, 1 for its summary (4 for a block of the window; of 1 the first one), 2 for the code of the letter (0)",
+        ", 3 for its time");
     with(x -> x.setSize(3, 2));
     feed(3, "y,z,a");
     int[] byArrival = {0, 3, 'y', 3};
@@ -2909,7 +2926,8 @@ public final class FloorTopsEdges {
   // ---- promise 26: count
 
   static void promise26_what() {
-    says("Returns the number; BAD_VALUE.", "7 for the length of the text");
+    says("- `what`: 0 for the time, 1 for evictions so far", "2 for merges so far", "6 for the states in the history, 7 for the length of the text",
+        "Returns the number; BAD_VALUE.");
     busy();
     // Evicted: b by c in 0, g by h in 1, four in the first block, y by z in 0.
     int[] wanted = {8 + 9 + 3, 1 + 1 + 4 + 1, 1, 2, 2, 1, 4, 4};
@@ -2959,10 +2977,26 @@ public final class FloorTopsEdges {
     Path path = Path.of("../shared/DOC.md");
     try {
       if (Files.exists(path)) {
-        document = plain(Files.readString(path, StandardCharsets.UTF_8));
+        String text = Files.readString(path, StandardCharsets.UTF_8);
+        document = plain(text);
+        lines = text.substring(text.indexOf("## Terms"), text.indexOf("## Not promised")).lines().toList();
       }
     } catch (java.io.IOException e) {
       System.out.println("the document can't be read: the quotes are not compared");
+    }
+  }
+
+  /** What each sentence asks is quoted by a test, in part at least; FloorTopsFace has the rest. */
+  private static void eachSentence() {
+    for (String line : lines) {
+      boolean heading = line.startsWith("#") || line.equals(line.toUpperCase()) || line.equals("The constants:");
+      if (!heading && !line.startsWith("Ahead of the calls")) {
+        for (String sentence : plain(line.replaceFirst("^`[^`]+`: ", "")).split("(?<=\\.) ")) {
+          if (quotes.stream().noneMatch(quote -> sentence.contains(quote) || quote.contains(sentence))) {
+            fail("no test quotes: " + sentence);
+          }
+        }
+      }
     }
   }
 
@@ -2984,6 +3018,8 @@ public final class FloorTopsEdges {
         }
       }
     }
+    test = "all tests";
+    eachSentence();
     for (int i = 1; i <= 26; i++) {
       if (!promises[i]) {
         fail("promise " + i + " has no test");
